@@ -6,6 +6,7 @@ import java.util.List;
 public final class ModelTest {
     private static final int RUNS = 300;
     private static final int CALLS = 120;
+    private static final int MOST_CALLS = 512;
 
     private static int wrong = 0;
     private static long seed = 20261115L;
@@ -267,7 +268,8 @@ public final class ModelTest {
             int vertices = pick(0, 9);
             ColourfulForest x = new ColourfulForest(vertices);
             Model m = new Model(vertices);
-            for (int call = 0; call < CALLS; call++) {
+            int calls = run % 10 == 0 ? MOST_CALLS : CALLS;
+            for (int call = 0; call < calls; call++) {
                 int kind = pick(0, 9);
                 if (kind < 2) {
                     link(run, x, m);
